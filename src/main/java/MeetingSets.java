@@ -739,7 +739,7 @@ public final class MeetingSets {
     private int comesInto(int slot, Family newer) {
         Family f = slots[slot];
         if (!f.isSameAs(newer)) {
-            history.record(slot, f);
+            history.remember(slot, f);
             f.become(newer);
         }
         return newer.size();
@@ -1793,7 +1793,7 @@ public final class MeetingSets {
             }
         }
 
-        void record(int slot, Family before) {
+        void remember(int slot, Family before) {
             slotOf[at] = slot;
             was[at].become(before);
             at = (at + 1) % ROOM;

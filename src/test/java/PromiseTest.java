@@ -1149,6 +1149,14 @@ public final class PromiseTest {
             due("undo", in(x, 0) + " " + in(x, 1) + " " + in(x, 2), was[left + 3]);
         }
         due("OUT stays", out(x), "family 4:0,12,3,23;");
+        for (int kind = 0; kind < 13; kind++) {
+            MeetingSets y = of("family 4:3,23,12,0;");
+            for (int earlier = 0; earlier <= kind; earlier++) {
+                act(y, earlier);
+            }
+            y.undo();
+            due("undo " + kind, in(y, 0) + " " + in(y, 1) + " " + in(y, 2), was[kind]);
+        }
     }
 
     private static void act(MeetingSets x, int kind) {
