@@ -205,6 +205,9 @@ public final class PromiseTest {
         faulty("family 3:0,,1;", 1, 11);
         faulty("family 3:nonee;", 1, 9);
         faulty("family 3:non;", 1, 9);
+        faulty("family 3:nonez;", 1, 9);
+        faulty("family 3:zone;", 1, 9);
+        faulty("zamily 3;", 1, 0);
         faulty("family 3:none1;", 1, 13);
         faulty("family 3:0 1;", 1, 11);
         faulty("family 3:0:1;", 1, 10);
@@ -335,9 +338,15 @@ public final class PromiseTest {
         isSuch("family 4:0,1,01;", "00000001001");
         isSuch("family 4:1,2,none;", "00100000010");
         isSuch(FANO, "11000100000");
+        isSuch("family 3:1,12;", "10001010111");
+        isSuch("family 7:6,56,456;", "10001010111");
         isSuch("family 7:0123456;", "11011111111");
         MeetingSets x = of("family 3:0;");
         due("what", x.is(0, 11), -2);
+        tell(x, 1, "family 3:none,0,1;");
+        due("beside another slot", x.is(0, 0), 1);
+        due("beside another slot", x.is(1, 0), 0);
+        x.drops(1);
         due("what", x.is(0, -1), -2);
         due("nothing", x.is(1, 0), -2);
         due("no slot", x.is(3, 0), -2);
@@ -416,6 +425,9 @@ public final class PromiseTest {
         made("family 4:none,0,1;", 7, "4:0");
         made("family 4:01,012,3,13;", 8, "4:7,10");
         made("family 4:none;", 8, "4:0");
+        made("family 4:0,012,none;", 8, "4:7");
+        made("family 7:none,0123456,6;", 8, "7:127");
+        made("family 7:0,0123456,6;", 7, "7:1,64");
         made("family 4:01,23;", 9, "4:5,6,9,10");
         made("family 3:01,02,12;", 9, "3:3,5,6");
         made("family 3:none,0;", 9, "3:");
@@ -545,6 +557,8 @@ public final class PromiseTest {
         due("none with it", x.all(1, 3, 0, 1), 0);
         due("none with it", in(x, 1), "3:");
         due("seven", x.all(2, 7, 4, 6), 20);
+        due("the whole", x.all(2, 4, 4, -1), 1);
+        due("the whole", in(x, 2), "4:15");
         due("point", x.all(0, 4, 2, 4), -2);
         due("point", x.all(0, 4, 2, -2), -2);
         due("K", x.all(0, 4, 5, -1), -2);
@@ -655,6 +669,17 @@ public final class PromiseTest {
         due("no slot", x.most(3, 0, 5), -2);
         x.all(0, 7, 3, -1);
         due("TOO LONG", x.most(0, 0, 100), -3);
+        x.all(0, 7, 1, -1);
+        due("ones of seven", x.most(0, 0, 6), 1);
+        due("ones of seven", x.most(0, 0, 5), -3);
+        due("ones of seven", x.most(0, 1, 7), 7);
+        due("ones of seven", x.most(0, 2, 7), 7);
+        tell(x, 0, FANO);
+        due("lines", x.most(0, 0, 7), 7);
+        due("lines", x.most(0, 1, 50), 1);
+        tell(x, 0, "family 7:6,56,456,3456,03456,013456,0123456,none;");
+        due("a chain", x.most(0, 3, 8), 8);
+        due("a chain", x.most(0, 3, 7), -3);
     }
 
     private static void p25() {
@@ -680,6 +705,10 @@ public final class PromiseTest {
         due("free", in(x, 1), "3:1,2");
         due("into itself", x.takes(0, 2, 50, 0), 3);
         due("into itself", in(x, 0), "3:1,2");
+        tell(x, 0, "family 7:6,46,5,56,36;");
+        // 32 5, 64 6, 72 36, 80 46, 96 56: 5, 56; then 6, 36, 46, 56; then the three left are not more
+        due("high numbers", x.takes(0, 0, 50, 1), 6);
+        due("high numbers", in(x, 1), "7:64,72,80,96");
         tell(x, 0, "family 6;");
         due("no sets", x.takes(0, 0, 1, 1), 0);
         due("no sets", in(x, 1), "6:");
@@ -723,6 +752,9 @@ public final class PromiseTest {
         // for 1 part one try, for 2 parts two
         due("tries are for each c", x.colours(0, 2), 2);
         due("too few", x.colours(0, 1), -3);
+        tell(x, 0, "family 3:0,1,2;");
+        // the first set can be in the first part alone: for 2 parts there are two tries
+        due("for 3 parts three", x.colours(0, 3), 3);
         tell(x, 0, "family 2;");
         due("no sets", x.colours(0, 1), 0);
         tell(x, 0, "family 2:none,0,1;");
@@ -749,6 +781,9 @@ public final class PromiseTest {
             due("path " + k, x.colour(1, 2, 4, k), path[k]);
         }
         due("not so many", x.colour(0, 3, 5, 5), -1);
+        tell(x, 1, "family 3:0,1,2;");
+        due("no way by two tries", x.colour(1, 2, 2, 0), -1);
+        due("TOO LONG", x.colour(1, 2, 1, 0), -3);
         due("not so many ahead of TOO LONG", x.colour(0, 3, 1, 5), -1);
         tell(x, 2, "family 4:none,0;");
         due("none ahead of not so many", x.colour(2, 3, 5, 9), -6);
@@ -962,6 +997,19 @@ public final class PromiseTest {
         tell(x, 1, "family 3:none,0,01,1;");
         due("with none", x.flower(1, -1), 1);
         due("with none", x.flower(1, 0), 1002);
+        tell(x, 1, "family 7:6,56,46,012345,016;");
+        // 63 is 012345, 64 6, 67 016, 80 46, 96 56: those with 6 have it in common alone
+        due("high numbers", x.flower(1, -1), 4);
+        due("high numbers", x.flower(1, 0), 64067080);
+        due("high numbers", x.flower(1, 1), 64067096);
+        due("high numbers", x.flower(1, 2), 64080096);
+        due("high numbers", x.flower(1, 3), 67080096);
+        tell(x, 1, "family 7:01234,5,6,012345,56;");
+        // 31 is 01234, 32 5, 63 012345, 64 6, 96 56: 01234, 5 and 6 are apart
+        due("high numbers", x.flower(1, -1), 2);
+        due("high numbers", x.flower(1, 0), 31032064);
+        // 5, 012345 and 56 have 5 in common
+        due("high numbers", x.flower(1, 1), 32063096);
     }
 
     // ---- two families, namings
@@ -1017,6 +1065,10 @@ public final class PromiseTest {
         tell(x, 1, "family 3:0;");
         tell(x, 2, "family 4:0;");
         due("unlike N", x.alike(1, 2), 0);
+        tell(x, 1, "family 4:0,01,012;");
+        tell(x, 2, "family 4:3,23,123;");
+        due("by one naming alone", x.alike(1, 2), 1);
+        tell(x, 1, "family 3:0;");
         tell(x, 2, "family 3:2;");
         due("like", x.alike(1, 2), 1);
         tell(x, 1, "family 6:012,345;");
@@ -1060,6 +1112,11 @@ public final class PromiseTest {
         due("adds", in(x, 0), "7:0,1,127");
         due("acts", x.count(1), 3);
         due("there", x.adds(0, 127), -5);
+        tell(x, 1, "family 3:0;");
+        due("beside another slot", x.adds(0, 64), 4);
+        due("beside another slot", in(x, 0), "7:0,1,64,127");
+        x.undo();
+        x.undo();
         due("no act", x.count(1), 3);
         due("no set", x.adds(0, 128), -2);
         due("no set", x.adds(0, -1), -2);
@@ -1093,6 +1150,14 @@ public final class PromiseTest {
         due("cuts", x.cuts(0, 127), 2);
         due("cuts", x.cuts(0, 0), 1);
         due("cuts", in(x, 0), "7:1");
+        tell(x, 1, "family 7:6,56,5;");
+        x.makes(0, 3, 2);
+        due("cuts", x.cuts(1, 64), 2);
+        due("cuts", x.cuts(1, 32), 1);
+        due("cuts", in(x, 1), "7:96");
+        for (int i = 0; i < 4; i++) {
+            x.undo();
+        }
         due("acts", x.count(1), 3);
         due("not there", x.cuts(0, 0), -6);
         due("no act", x.count(1), 3);
@@ -1364,6 +1429,10 @@ public final class PromiseTest {
         tell(x, 1, "family 7;");
         due("of no sets", x.covers(1, -1), 128);
         due("of no sets", x.covers(1, 0), 0);
+        tell(x, 1, "family 6;");
+        due("of six points", x.covers(1, -1), 64);
+        tell(x, 1, "family 1;");
+        due("of one point", x.covers(1, -1), 2);
         tell(x, 1, "family 7:none,6;");
         due("none", x.covers(1, -1), 0);
         tell(x, 1, "family 7:6;");
