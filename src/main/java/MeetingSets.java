@@ -1424,7 +1424,7 @@ public final class MeetingSets {
             high &= notHigh;
         }
 
-        private void becomeRestOf(Family whole) {
+        void becomeRestOf(Family whole) {
             low = whole.low & ~low;
             high = whole.high & ~high;
         }
@@ -1849,9 +1849,10 @@ public final class MeetingSets {
             int depth = 0;
             // Each turn takes a set or goes back from one.
             for (int turn = 0; turn <= 2 * limit + 2 && depth >= 0; turn++) {
-                if (depth + leftAt(depth) <= best) {
+                int left = leftAt(depth);
+                if (depth + left <= best) {
                     depth--;
-                } else if (leftAt(depth) == 0) {
+                } else if (left == 0) {
                     keepBest(depth);
                     depth--;
                 } else {
