@@ -268,6 +268,11 @@ public final class PromiseTest {
         due("some", x.look(1, 4), 23);
         due("all", x.look(1, 5), 5);
         due("no two apart", x.look(1, 6), 0);
+        tell(x, 1, FANO);
+        int[] lines = {7, 7, 3, 3, 127, 0, 0};
+        for (int what = 0; what < 7; what++) {
+            due("lines, " + what, x.look(1, what), lines[what]);
+        }
         tell(x, 1, "family 4;");
         int[] empty = {4, 0, -1, -1, 0, 15, 0};
         for (int what = 0; what < 7; what++) {
@@ -378,6 +383,9 @@ public final class PromiseTest {
         due("nothing", x.order(1, 0), -2);
         tell(x, 1, "family 3;");
         due("of no sets", x.order(1, 2), 2);
+        tell(x, 1, "family 7:6,56,46,5;");
+        due("of seven points", x.order(1, 0) * 1000 + x.order(1, 1) * 100 + x.order(1, 2) * 10 + x.order(1, 6), 6543);
+        due("k", x.order(1, 7), -2);
     }
 
     private static void p13() {
@@ -421,6 +429,8 @@ public final class PromiseTest {
         made("family 4:012,013,023;", 5, "4:1,3,5,7,9,11,13");
         made("family 4:0,1,2;", 6, "4:1,2,3,4,5,6,7");
         made("family 4:none,3;", 6, "4:0,8");
+        made("family 7:5,6,46;", 6, "7:32,64,80,96,112");
+        made("family 7:012345,0123456,16;", 5, "7:2,63,66,127");
         made("family 4:01,012,3,0123;", 7, "4:3,8");
         made("family 4:none,0,1;", 7, "4:0");
         made("family 4:01,012,3,13;", 8, "4:7,10");
