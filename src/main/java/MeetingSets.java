@@ -772,42 +772,30 @@ public final class MeetingSets {
             case 1:
                 return f.leastLevel() == f.greatestLevel();
             case 2:
+                return makesItself(f, 2);
             case 3:
-            case 9:
-            case 10:
-                return isClosed(f, what);
+                return makesItself(f, 3);
             case 4:
                 return isChain(f);
             case 5:
-                made.becomeLowest(f);
-                return made.isSameAs(f);
+                return makesItself(f, 7);
             case 6:
                 return f.pointsOfAll() != 0;
             case 7:
                 return changingShifts(f) == 0;
-            default:
+            case 8:
                 collectMeets(f);
                 return allAnswer(made, f);
+            case 9:
+                return makesItself(f, 5);
+            default:
+                return makesItself(f, 6);
         }
     }
 
-    /** Whether a closure (numbered as for is) of a family is the family itself. */
-    private boolean isClosed(Family f, int what) {
-        made.become(f);
-        switch (what) {
-            case 2:
-                made.closeDown();
-                break;
-            case 3:
-                made.closeUp();
-                break;
-            case 9:
-                made.closeByMeets(f, spare);
-                break;
-            default:
-                made.closeByJoins(f, spare);
-                break;
-        }
+    /** Whether what makes() makes of a family is the family itself. */
+    private boolean makesItself(Family f, int what) {
+        make(f, what);
         return made.isSameAs(f);
     }
 
@@ -853,6 +841,7 @@ public final class MeetingSets {
         return ahead;
     }
 
+    /** What is made of f, numbered as for makes(), comes into made. */
     private void make(Family f, int what) {
         made.become(f);
         switch (what) {
