@@ -172,12 +172,7 @@ public final class AgainstPlainTest {
         for (int i = 0; i < text.length(); i += 20) {
             Object[] numbers = new Object[5];
             for (int w = 0; w < 5; w++) {
-                int number = 0;
-                for (int b = 0; b < 4; b++) {
-                    int at = i + 4 * w + b;
-                    number = number << 8 | (at < text.length() ? text.charAt(at) : ' ');
-                }
-                numbers[w] = number;
+                numbers[w] = Texts.piece(text, i)[w];
             }
             call("feed", numbers);
         }

@@ -30,16 +30,7 @@ public final class PromiseTest {
     // ---- texts
 
     private static void feed(MeetingSets x, String text) {
-        int before = x.count(2);
-        for (int i = 0; i < text.length(); i += 20) {
-            int[] w = new int[5];
-            for (int b = 0; b < 20; b++) {
-                int sign = i + b < text.length() ? text.charAt(i + b) : ' ';
-                w[b / 4] = w[b / 4] << 8 | sign;
-            }
-            x.feed(w[0], w[1], w[2], w[3], w[4]);
-        }
-        x.end(before + text.length());
+        Texts.feed(x, text);
     }
 
     private static int tell(MeetingSets x, int slot, String text) {
@@ -56,29 +47,12 @@ public final class PromiseTest {
         return x;
     }
 
-    /** What a slot has, as a text; asked by calls that leave OUT alone. */
     private static String in(MeetingSets x, int slot) {
-        int n = x.look(slot, 0);
-        if (n == -2) {
-            return "nothing";
-        }
-        StringBuilder text = new StringBuilder().append(n).append(':');
-        int set = x.set(slot, 0);
-        for (int k = 1; set >= 0; k++) {
-            text.append(k == 1 ? "" : ",").append(set);
-            set = x.set(slot, k);
-        }
-        return text.toString();
+        return Texts.in(x, slot);
     }
 
     private static String out(MeetingSets x) {
-        StringBuilder text = new StringBuilder();
-        int sign = x.octet(0);
-        for (int i = 1; sign >= 0; i++) {
-            text.append((char) sign);
-            sign = x.octet(i);
-        }
-        return text.toString();
+        return Texts.out(x);
     }
 
     private static void faulty(String text, int number, int place) {
