@@ -286,6 +286,12 @@ public final class PromiseEdgesTest {
         such(9, f("none", "0", "0,01", "none,0,1", "1,01,12"), f("0,1", "01,12", "none,01,12", "012,013,023,01,02,03"));
         says("10: what they have together");
         such(10, f("none", "0", "0,01", "0,1,01", "01,12,012"), f("0,1", "01,12", "none,0,1", "0,1,2,01,02,12"));
+        // all points but the last, and the last alone
+        String[] such = {"11001111111", "11001110111"};
+        for (int what = 0; what <= 10; what++) {
+            of("family 7:012345;", "family 7:6;").asks("is(0, " + what + ") = " + such[0].charAt(what),
+                    "is(1, " + what + ") = " + such[1].charAt(what));
+        }
         says("1, else 0 (of no SETS 1).");
         for (int what = 0; what <= 10; what++) {
             of("family 1;", "family 4;", "family 7;").asks("is(0, " + what + ") = 1", "is(1, " + what + ") = 1",
@@ -351,7 +357,6 @@ public final class PromiseEdgesTest {
 
     // ---- making
 
-    /** How many sets each of the ten makes of a family, and one of them in full. */
     private static void p14() {
         promise(14);
         says("Into a SLOT (it may be the same) comes what is made of a FAMILY");
@@ -383,6 +388,15 @@ public final class PromiseEdgesTest {
                 of("family " + n + ":" + allPoints(n) + ";").asks(call + top[what], size + top[what], "look(1, 0) = " + n);
                 Subject.full(n).asks(call + all[what], size + all[what], "look(1, 0) = " + n);
             }
+        }
+        // all points but the last, and the last alone
+        int[] but = {6, 1, 64, 2, 1, 1, 1, 1, 1, 6};
+        int[] last = {1, 6, 2, 64, 1, 1, 1, 1, 1, 1};
+        for (int what = 0; what <= 9; what++) {
+            of("family 7:012345;", "family 7:6;").asks("makes(0, " + what + ", 2) = " + but[what], "look(2, 1) = " + but[what],
+                    "has(2, 63) = " + (what == 2 || what == 3 || what >= 5 && what <= 8 ? 1 : 0));
+            of("family 7:012345;", "family 7:6;").asks("makes(1, " + what + ", 2) = " + last[what], "look(2, 1) = " + last[what],
+                    "has(2, 64) = " + (what == 2 || what == 3 || what >= 5 ? 1 : 0));
         }
         says("-2.");
         three("family 3:0;").bounds("makes(%, 4, 0)", 0, 2).bounds("makes(0, %, 1)", 0, 9).bounds("makes(0, 4, %)", 0, 2);
@@ -530,7 +544,8 @@ public final class PromiseEdgesTest {
                 "cascade(100000, 1, 0) = 100000", "cascade(100000, 2, 0) = 447", "cascade(100000, 2, 1) = 319");
         says("NONE: not so many");
         for (int k = 1; k <= 7; k++) {
-            of().asks("cascade(0, " + k + ", 0) = -1", "cascade(1, " + k + ", 1) = -1", "cascade(" + k + ", " + k + ", " + k + ") = -1",
+            of().asks("cascade(0, " + k + ", 0) = -1", "cascade(1, " + k + ", 1) = -1",
+                    "cascade(" + k + ", " + k + ", " + k + ") = -1",
                     "cascade(" + k + ", " + k + ", " + (k - 1) + ") = 1", "cascade(1, " + k + ", MAX) = -1",
                     "cascade(100000, " + k + ", 7) = -1");
         }
@@ -664,7 +679,8 @@ public final class PromiseEdgesTest {
         of("family 3:0;").bounds("colour(0, %, 9, 0)", 1, 7);
         says("Asked in this order: -2 (k below 0, tries 1 .. 50000); -6: the SET none is in the FAMILY; NONE: not so many SETS; "
                 + "-3: it is TOO LONG; NONE: there is no way.");
-        three("family 3:0;").bounds("colour(%, 1, 9, 0)", 0, 2).bounds("colour(0, 1, %, 0)", 1, 50000).atLeast("colour(0, 1, 9, %)", 0);
+        three("family 3:0;").bounds("colour(%, 1, 9, 0)", 0, 2).bounds("colour(0, 1, %, 0)", 1, 50000)
+                .atLeast("colour(0, 1, 9, %)", 0);
         // with none in it: refused first, then -6 whatever k, tries and c
         of("family 3:none,0,1,2;").stays("colour(0, 2, 1, -1) = -2", "colour(0, 2, 0, 9) = -2", "colour(0, 2, 50001, 9) = -2",
                 "colour(0, 0, 1, 9) = -2", "colour(0, 8, 1, 9) = -2", "colour(0, 2, 1, 9) = -6", "colour(0, 2, 1, 0) = -6",
@@ -940,8 +956,8 @@ public final class PromiseEdgesTest {
     private static void p43() {
         promise(43);
         says("A SET goes: how many there are.");
-        of("family 3:none,012;").asks("cuts(0, 7) = 1", "cuts(0, 0) = 0", "in(0) = 3:", "count(0) = 1", "count(1) = 3", "undo() = 2",
-                "in(0) = 3:0", "undo() = 1", "in(0) = 3:0,7");
+        of("family 3:none,012;").asks("cuts(0, 7) = 1", "cuts(0, 0) = 0", "in(0) = 3:", "count(0) = 1", "count(1) = 3",
+                "undo() = 2", "in(0) = 3:0", "undo() = 1", "in(0) = 3:0,7");
         Subject.full(7).asks("cuts(0, 0) = 127", "cuts(0, 63) = 126", "cuts(0, 64) = 125", "cuts(0, 127) = 124", "set(0, 0) = 1",
                 "set(0, 123) = 126", "set(0, 124) = -1");
         says("-6: it is not there");
@@ -1016,8 +1032,8 @@ public final class PromiseEdgesTest {
         of("family 3:0;").asks("tell(0) = 11", "octet(11) = -1", "octet(-1) = -1", "octet(MIN) = -1", "octet(MAX) = -1",
                 "octet(10) = 59");
         // a shorter one behind a longer one
-        of("family 3:none,0,1;", "family 3;").asks("tell(0) = 18", "octet(9) = 110", "tell(1) = 9", "octet(8) = 59", "octet(9) = -1",
-                "octet(17) = -1");
+        of("family 3:none,0,1;", "family 3;").asks("tell(0) = 18", "octet(9) = 110", "tell(1) = 9", "octet(8) = 59",
+                "octet(9) = -1", "octet(17) = -1");
         of().asks("octet(0) = -1");
     }
 
@@ -1045,7 +1061,8 @@ public final class PromiseEdgesTest {
         says("The k-th SET (from 0) that is not in the FAMILY.");
         of("family 3:none,2;").asks("lacks(0, 0) = 1", "lacks(0, 2) = 3", "lacks(0, 3) = 5", "lacks(0, 5) = 7", "lacks(0, 6) = -1");
         for (int n = 1; n <= 7; n++) {
-            of("family " + n + ";").asks("lacks(0, 0) = 0", "lacks(0, " + whole(n) + ") = " + whole(n), "lacks(0, " + (1 << n) + ") = -1");
+            of("family " + n + ";").asks("lacks(0, 0) = 0", "lacks(0, " + whole(n) + ") = " + whole(n),
+                    "lacks(0, " + (1 << n) + ") = -1");
         }
         says("NONE: not so many");
         for (int n = 1; n <= 7; n++) {
@@ -1141,8 +1158,8 @@ public final class PromiseEdgesTest {
 
     private static void p54() {
         promise(54);
-        says("Twos of unlike SETS that are APART: how many (k NONE), the k-th (from 0; by the lesser, then the other one), as 1000 times "
-                + "the lesser and the other.");
+        says("Twos of unlike SETS that are APART: how many (k NONE), the k-th (from 0; by the lesser, then the other one), as "
+                + "1000 times the lesser and the other.");
         of("family 4:0,1,23,3;").asks("apart(0, -1) = 5", "apart(0, 0) = 1002", "apart(0, 1) = 1008", "apart(0, 2) = 1012",
                 "apart(0, 3) = 2008", "apart(0, 4) = 2012", "apart(0, 5) = -1");
         of("family 3:none;").asks("apart(0, -1) = 0", "apart(0, 0) = -1");
@@ -1162,8 +1179,8 @@ public final class PromiseEdgesTest {
         promise(55);
         says("SETS (of all there are of N) that MEET all of a FAMILY: how many (k NONE), the k-th (from 0).");
         for (int n = 1; n <= 7; n++) {
-            of("family " + n + ";").asks("covers(0, -1) = " + (1 << n), "covers(0, 0) = 0", "covers(0, " + whole(n) + ") = " + whole(n),
-                    "covers(0, " + (1 << n) + ") = -1");
+            of("family " + n + ";").asks("covers(0, -1) = " + (1 << n), "covers(0, 0) = 0",
+                    "covers(0, " + whole(n) + ") = " + whole(n), "covers(0, " + (1 << n) + ") = -1");
             of("family " + n + ":" + (n - 1) + ";").asks("covers(0, -1) = " + (1 << n - 1), "covers(0, 0) = " + (1 << n - 1),
                     "covers(0, " + whole(n - 1) + ") = " + whole(n), "covers(0, " + (1 << n - 1) + ") = -1");
             of("family " + n + ":" + allPoints(n) + ";").asks("covers(0, -1) = " + whole(n), "covers(0, 0) = 1");
@@ -1212,8 +1229,8 @@ public final class PromiseEdgesTest {
 
     private static void p58() {
         promise(58);
-        says("Of two FAMILIES (they may be one) of one N come into a SLOT, what 0: SETS of one or both, 1: of both, 2: of the first alone, "
-                + "3: what a SET of each has together: how many.");
+        says("Of two FAMILIES (they may be one) of one N come into a SLOT, what 0: SETS of one or both, 1: of both, 2: of the "
+                + "first alone, 3: what a SET of each has together: how many.");
         String[] want = {"4:0,1,6,8", "4:1", "4:0,6", "4:1,7,8,9,14"};
         String[] itself = {"4:0,1,6", "4:0,1,6", "4:", "4:0,1,6,7"};
         for (int what = 0; what <= 3; what++) {
@@ -1222,12 +1239,17 @@ public final class PromiseEdgesTest {
                 of("family 4:none,0,12;", "family 4:0,3;").asks("joint(0, 1, " + what + ", " + to + ") = " + size,
                         "in(" + to + ") = " + want[what]);
                 int own = itself[what].endsWith(":") ? 0 : itself[what].split(",").length;
-                of("family 4:none,0,12;").asks("joint(0, 0, " + what + ", " + to + ") = " + own, "in(" + to + ") = " + itself[what]);
+                of("family 4:none,0,12;").asks("joint(0, 0, " + what + ", " + to + ") = " + own,
+                        "in(" + to + ") = " + itself[what]);
             }
         }
-        of("family 3;", "family 3:none,0;").asks("joint(0, 1, 0, 2) = 2", "joint(0, 1, 1, 2) = 0", "in(2) = 3:", "joint(0, 1, 2, 2) = 0",
-                "joint(1, 0, 2, 2) = 2", "joint(0, 1, 3, 2) = 0", "joint(1, 0, 3, 2) = 0", "joint(0, 0, 3, 2) = 0");
-        Subject.full(7).asks("joint(0, 0, 0, 1) = 128", "joint(0, 0, 1, 1) = 128", "joint(0, 0, 2, 1) = 0", "joint(0, 0, 3, 1) = 128");
+        of("family 3;", "family 3:none,0;").asks("joint(0, 1, 0, 2) = 2", "joint(0, 1, 1, 2) = 0", "in(2) = 3:",
+                "joint(0, 1, 2, 2) = 0", "joint(1, 0, 2, 2) = 2", "joint(0, 1, 3, 2) = 0", "joint(1, 0, 3, 2) = 0",
+                "joint(0, 0, 3, 2) = 0");
+        of("family 7:none,0;", "family 7:012345;", "family 7:6;").asks("joint(0, 1, 3, 1) = 1", "in(1) = 7:63",
+                "joint(0, 2, 3, 1) = 2", "in(1) = 7:64,65", "joint(2, 0, 3, 2) = 2", "in(2) = 7:64,65");
+        Subject.full(7).asks("joint(0, 0, 0, 1) = 128", "joint(0, 0, 1, 1) = 128", "joint(0, 0, 2, 1) = 0",
+                "joint(0, 0, 3, 1) = 128");
         says("-6: they have not one N");
         of("family 3:0;", "family 4:0;").stays("joint(0, 1, 0, 2) = -6", "joint(1, 0, 3, 2) = -6", "joint(0, 1, 1, 0) = -6")
                 .asks("joint(1, 1, 0, 2) = 1", "joint(0, 0, 0, 2) = 1");
