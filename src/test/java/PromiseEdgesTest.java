@@ -572,10 +572,10 @@ public final class PromiseEdgesTest {
     private static void p24() {
         promise(24);
         says("GREATEST (what 0), PACKED (1), FREE (2), CHAIN (3): how many SETS.");
-        for (int n = 1; n <= 4; n++) {
+        for (int n = 1; n <= 7; n++) {
             // of all: those with one point; none and each point; the middle level; a set more each time
-            Subject.full(n).asks("most(0, 0, 50000) = " + (1 << n - 1), "most(0, 1, 50000) = " + (n + 1),
-                    "most(0, 2, 50000) = " + c(n, n / 2), "most(0, 3, 50000) = " + (n + 1));
+            Subject.full(n).asks("most(0, 0, 50000) = " + (n == 7 ? -3 : 1 << n - 1), "most(0, 1, 50000) = " + (n + 1),
+                    "most(0, 2, 50000) = " + (n == 7 ? -3 : c(n, n / 2)), "most(0, 3, 50000) = " + (n + 1));
         }
         for (int what = 0; what <= 3; what++) {
             of("family 7;").asks("most(0, " + what + ", 1) = 0");
@@ -609,6 +609,19 @@ public final class PromiseEdgesTest {
                 Subject.full(i + 2).asks("takes(0, " + what + ", 50000, 1) = " + due, "in(1) = " + found[i][what]);
                 Subject.full(i + 2).asks("takes(0, " + what + ", " + due + ", 1) = " + due, "in(1) = " + found[i][what]);
                 Subject.full(i + 2).asks("takes(0, " + what + ", " + (due - 1) + ", 1) = -3", "in(1) = nothing");
+            }
+        }
+        // of all sets; 50001: more than can be told
+        int[][] all = {{1, 2, 1, 2}, {2, 3, 3, 3}, {6, 10, 8, 12}, {18, 37, 39, 63}, {151, 147, 492, 408},
+            {14249, 639, 41404, 3196}, {50001, 3029, 50001, 29403}};
+        for (int n = 1; n <= 7; n++) {
+            for (int what = 0; what <= 3; what++) {
+                int due = all[n - 1][what];
+                Subject.full(n).asks("takes(0, " + what + ", 50000, 1) = " + (due > 50000 ? -3 : due));
+                if (due > 1 && due < 50000) {
+                    Subject.full(n).asks("takes(0, " + what + ", " + due + ", 1) = " + due, "count(1) = 3",
+                            "takes(0, " + what + ", " + (due - 1) + ", 2) = -3", "in(2) = nothing", "count(1) = 3");
+                }
             }
         }
         for (int what = 0; what <= 3; what++) {
@@ -651,6 +664,10 @@ public final class PromiseEdgesTest {
         of("family 3:012;").asks("colours(0, 1) = 1");
         for (int n = 1; n <= 7; n++) {
             of().asks("all(0, " + n + ", 1, -1) = " + n, "colours(0, 50000) = " + n);
+        }
+        // all sets but none: as many as points, which are apart; that fewer can't do takes too long from six on
+        for (int n = 1; n <= 7; n++) {
+            Subject.full(n).asks("cuts(0, 0) = " + whole(n), "colours(0, 50000) = " + (n < 6 ? n : -3));
         }
         says("-3: it is TOO LONG (tries for each c)");
         // for one part one try, for two parts two: not three in all
