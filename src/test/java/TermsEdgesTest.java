@@ -135,6 +135,9 @@ public final class TermsEdgesTest {
                 .faulty("family 18446744073709551617;", 2, 7).faulty("  family\n\n00;", 2, 10);
         of().faulty("family " + "9".repeat(793), 2, 7).faulty("family " + "0".repeat(793), 2, 7);
         of().tells(0, "family 1;", 0).tells(0, "family 7;", 0);
+        // the number counts, not how it is written
+        of().tells(0, "family 01;", 0).asks("look(0, 0) = 1").tells(0, "family 007:6;", 1).asks("in(0) = 7:64")
+                .faulty("family 08;", 2, 7).faulty("family 010;", 2, 7);
         says("3 a digit that is not below N, or that stood ahead of it in this SET (at it)");
         for (int n = 1; n <= 7; n++) {
             String points = allPoints(n);
