@@ -1,61 +1,15 @@
-import java.lang.reflect.Method;
 import java.util.ArrayList;
-import java.util.LinkedHashMap;
 import java.util.List;
-import java.util.Map;
 import java.util.Random;
 
 /** Long runs of calls, of a fixed seed: the program and the plain reading of the document answer alike. */
 public final class AgainstPlainTest {
-    /** What the arguments of each call are, a word for each; the slot comes first where there is one. */
-    private static final String[] CALLS = {
-        "told slot", "fault what2", "count what4", "look slot what7", "set slot k", "has slot set",
-        "is slot what11", "degree slot point", "order slot point", "level slot level", "makes slot what10 to",
-        "part slot point what2 to", "shift slot i j", "would slot i j", "settles slot", "row slot n level m",
-        "all slot n level point", "least big level", "cascade big level few", "choose n20 n20",
-        "most slot what4 tries", "takes slot what4 tries to", "cover slot", "colours slot tries",
-        "colour slot c tries k", "steps slot set set", "arcs slot round", "around n round point",
-        "rounds n set", "sum slot what2", "shattered slot set", "shatters slot what2", "flower slot kmany",
-        "across slot to what4", "answers slot level", "alike slot to", "selves slot", "adds slot set",
-        "without slot set what7", "cuts slot set", "drops slot", "undo", "tell slot", "octet kmany",
-        "common slot set level", "lacks slot k", "moved slot", "together slot point point what2", "half slot",
-        "next slot set", "apart slot kmany", "covers slot k", "height slot set", "trace slot set to",
-        "joint slot to what4 to", "rank set", "ranked level k"};
-
-    /** What later calls on an object answer is free. */
-    private static final int MOST_CALLS = 512;
-
     private final Random random;
-    private final MeetingSets x = new MeetingSets();
-    private final PlainSets plain = new PlainSets();
-    private final List<String> log = new ArrayList<>();
-    private static final Map<String, Method> REAL = methods(MeetingSets.class);
-    private static final Map<String, Method> PLAIN = methods(PlainSets.class);
+    private final Pair pair = new Pair();
     private int slot;
 
     private AgainstPlainTest(long seed) {
         random = new Random(seed);
-    }
-
-    private static Map<String, Method> methods(Class<?> type) {
-        Map<String, Method> r = new LinkedHashMap<>();
-        for (Method m : type.getDeclaredMethods()) {
-            m.setAccessible(true);
-            r.put(m.getName() + "/" + m.getParameterCount(), m);
-        }
-        return r;
-    }
-
-    private void call(String name, Object... args) throws Exception {
-        String key = name + "/" + args.length;
-        Object got = REAL.get(key).invoke(x, args);
-        Object want = PLAIN.get(key).invoke(plain, args);
-        String text = name + java.util.Arrays.toString(args);
-        log.add(text + " = " + got);
-        if (!got.equals(want)) {
-            System.out.println(String.join("\n", log.subList(Math.max(0, log.size() - 40), log.size())));
-            throw new IllegalStateException(text + " answered " + got + ", due is " + want);
-        }
     }
 
     private int odd(int least, int most, int wildOneIn) {
@@ -67,13 +21,13 @@ public final class AgainstPlainTest {
     }
 
     private int pointsHere() {
-        int n = plain.look(slot, 0);
+        int n = pair.plain.look(slot, 0);
         return n < 1 ? 4 : n;
     }
 
     private int member() {
-        int size = plain.look(slot, 1);
-        return size < 1 ? 0 : plain.set(slot, random.nextInt(size));
+        int size = pair.plain.look(slot, 1);
+        return size < 1 ? 0 : pair.plain.set(slot, random.nextInt(size));
     }
 
     private int argument(String kind, int before) {
@@ -90,7 +44,7 @@ public final class AgainstPlainTest {
             case "set":
                 return random.nextInt(3) > 0 ? member() : odd(0, (1 << n) - 1, 30);
             case "k":
-                return odd(0, Math.max(1, plain.look(slot, 1)), 30);
+                return odd(0, Math.max(1, pair.plain.look(slot, 1)), 30);
             case "kmany":
                 return random.nextBoolean() ? -1 : odd(0, 200, 20);
             case "point":
@@ -168,32 +122,32 @@ public final class AgainstPlainTest {
     }
 
     private void feedText(String text) throws Exception {
-        int before = plain.count(2);
+        int before = pair.plain.count(2);
         for (int i = 0; i < text.length(); i += 20) {
             Object[] numbers = new Object[5];
             for (int w = 0; w < 5; w++) {
                 numbers[w] = Texts.piece(text, i)[w];
             }
-            call("feed", numbers);
+            pair.call("feed", numbers);
         }
-        call("end", before + text.length());
+        pair.call("end", before + text.length());
         if (random.nextInt(6) == 0) {
-            call("end", odd(0, 800, 3));
+            pair.call("end", odd(0, 800, 3));
         }
     }
 
     private void run(int calls) throws Exception {
-        while (log.size() < calls) {
+        while (pair.calls() < calls) {
             if (random.nextInt(12) == 0) {
                 if (random.nextInt(10) > 0) {
-                    call("end", 0);
+                    pair.call("end", 0);
                 }
                 feedText(someText());
-                call("told", odd(0, 2, 40));
-                call("fault", 0);
-                call("fault", 1);
+                pair.call("told", odd(0, 2, 40));
+                pair.call("fault", 0);
+                pair.call("fault", 1);
             }
-            String[] words = CALLS[random.nextInt(CALLS.length)].split(" ");
+            String[] words = Pair.CALLS[random.nextInt(Pair.CALLS.length)].split(" ");
             if (words[0].equals("drops") && random.nextInt(3) > 0) {
                 continue;
             }
@@ -203,15 +157,15 @@ public final class AgainstPlainTest {
                 before = argument(words[i], before);
                 args[i - 1] = before;
             }
-            call(words[0], args);
+            pair.call(words[0], args);
         }
         for (int i = 0; i < 12; i++) {
-            call("undo");
-            call("count", 0);
-            call("tell", i % 3);
+            pair.call("undo");
+            pair.call("count", 0);
+            pair.call("tell", i % 3);
         }
-        while (log.size() < MOST_CALLS) {
-            call("octet", log.size() - MOST_CALLS + plain.count(3));
+        while (pair.calls() < Pair.MOST_CALLS) {
+            pair.call("octet", pair.calls() - Pair.MOST_CALLS + pair.plain.count(3));
         }
     }
 
@@ -220,21 +174,21 @@ public final class AgainstPlainTest {
         for (int seed = 1; seed <= 400; seed++) {
             AgainstPlainTest t = new AgainstPlainTest(1000 + seed);
             for (int i = 0; i < 10; i++) {
-                t.call("end", 0);
+                t.pair.call("end", 0);
                 StringBuilder text = new StringBuilder(t.someText());
                 t.spoil(text);
                 t.feedText(text.toString());
-                t.call("told", i % 3);
-                t.call("fault", 0);
-                t.call("fault", 1);
-                t.call("tell", i % 3);
+                t.pair.call("told", i % 3);
+                t.pair.call("fault", 0);
+                t.pair.call("fault", 1);
+                t.pair.call("tell", i % 3);
                 texts++;
-                if (t.log.size() > MOST_CALLS - 100) {
+                if (t.pair.calls() > Pair.MOST_CALLS - 100) {
                     break;
                 }
             }
-            while (t.log.size() < MOST_CALLS) {
-                t.call("octet", MOST_CALLS - t.log.size() - 2);
+            while (t.pair.calls() < Pair.MOST_CALLS) {
+                t.pair.call("octet", Pair.MOST_CALLS - t.pair.calls() - 2);
             }
         }
         return texts;
@@ -246,7 +200,7 @@ public final class AgainstPlainTest {
         try {
             int texts = readTexts();
             for (int seed = first; seed < first + runs; seed++) {
-                new AgainstPlainTest(seed).run(MOST_CALLS - 90);
+                new AgainstPlainTest(seed).run(Pair.MOST_CALLS - 90);
             }
             System.out.println(runs + " runs and " + texts + " texts are as the plain reading has them");
         } catch (IllegalStateException e) {
